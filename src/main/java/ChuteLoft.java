@@ -457,7 +457,7 @@ public final class ChuteLoft {
     private void lineUp(int jumper) {
         int place = aboard;
         while (place > 0 && goesAhead(jumper, order(place - 1))) {
-            setPlace(place, line[place - 1]);
+            setPlace(place, order(place - 1));
             place--;
         }
         setPlace(place, jumper);

@@ -182,7 +182,7 @@ final class AskedTest {
             loft.lend(i, i);
             loft.pack(i, i);
         }
-        for (int i = 0; i < 6; i++) {
+        for (int i = 5; i >= 0; i--) {
             loft.board(i, styles[i], 4);
         }
         int[] due = {3, 2, 4, 1, 0, 5};
@@ -197,15 +197,17 @@ final class AskedTest {
     }
 
     private static void theOrderBySmallerNumber() {
-        ChuteLoft loft = PlaneTest.ready(6, 2);
-        int[] boarding = {3, 5, 0, 4, 1};
-        for (int jumper : boarding) {
-            loft.board(jumper, 1, 4);
+        for (int licence = 0; licence <= 2; licence += 2) {
+            ChuteLoft loft = PlaneTest.ready(6, licence);
+            int[] boarding = {3, 5, 0, 4, 1};
+            for (int jumper : boarding) {
+                loft.board(jumper, 1, 4);
+            }
+            int[] due = {0, 1, 3, 4, 5};
+            for (int place = 0; place < 5; place++) {
+                Checks.same("place " + place + " with licence " + licence, loft.order(place), due[place]);
+            }
+            Checks.throwsIndex(loft, "place 5", () -> loft.order(5));
         }
-        int[] due = {0, 1, 3, 4, 5};
-        for (int place = 0; place < 5; place++) {
-            Checks.same("place " + place, loft.order(place), due[place]);
-        }
-        Checks.throwsIndex(loft, "place 5", () -> loft.order(5));
     }
 }

@@ -19,10 +19,12 @@ final class PlaneTest {
         flyingIsRefused();
         troublesComeByDraw();
         drawIsNotBelowItsSum();
+        wearBringsTrouble();
         drawsGoByOrder();
         troubleFallsToTheReserve();
         pairsMeet();
-        pairsTenApartDoNotMeet();
+        pairsTenApartInXDoNotMeet();
+        pairsTenApartInYDoNotMeet();
         whoJustOpenedMeets();
         whoLandedMeetsNobody();
         holding();
@@ -327,6 +329,28 @@ final class PlaneTest {
         }
     }
 
+    /**
+     * One flight a day, always 9 NEAT. The 17th DRAW is 2, with a WEAR of 1: not below 2. The 31st one is 0, with a
+     * WEAR of 1.875: below 3.
+     */
+    private static void wearBringsTrouble() {
+        ChuteLoft loft = ready(1, 3);
+        for (int flight = 1; flight <= 31; flight++) {
+            loft.board(0, 0, 4);
+            loft.fly(0, 1);
+            if (flight == 17) {
+                Checks.same("the 17th draw", loft.many(5), 2);
+            }
+            Checks.same("troubles till flight " + flight, loft.many(8), flight == 31 ? 1 : 0);
+            Checks.same("due behind flight " + flight, loft.ofRig(0, 1), flight == 31 ? 29 : 59 + flight);
+            loft.pass(1);
+            loft.renew(0);
+            loft.pack(0, 0);
+        }
+        Checks.same("the 31st draw", loft.many(5), 0);
+        Checks.same("wear", loft.wear(0), 2.125);
+    }
+
     private static ChuteLoft packedByOne() {
         ChuteLoft loft = new ChuteLoft();
         for (int i = 0; i < 8; i++) {
@@ -407,7 +431,7 @@ final class PlaneTest {
      * Both fall to y = 80 and are steered back in y alone, by 4 a TICK; x stays 0 and 10. A WX of 1 in the LAYER in
      * which they open is felt one TICK earlier by the first one: 9 apart.
      */
-    private static void pairsTenApartDoNotMeet() {
+    private static void pairsTenApartInXDoNotMeet() {
         for (int wx = 0; wx <= 1; wx++) {
             ChuteLoft loft = ready(2, 0);
             loft.wind(9, 20, 0);
@@ -422,6 +446,26 @@ final class PlaneTest {
             Checks.same("met with " + wx, loft.many(10), wx);
             Checks.same("y of both", loft.landed(0, true) + loft.landed(1, true), 40.0);
             Checks.same("x apart", loft.landed(1, false) - loft.landed(0, false), 10.0);
+        }
+    }
+
+    /**
+     * Both fall to y = 80; under the canopy y is 4 nearer and WY more, so that the first one, a TICK ahead, is WY less
+     * 4 farther. In the LAYER 4 they are 9 apart in x, below it 10.
+     */
+    private static void pairsTenApartInYDoNotMeet() {
+        for (int wy = 13; wy <= 14; wy++) {
+            ChuteLoft loft = ready(2, 0);
+            loft.board(0, 0, 4);
+            loft.board(1, 0, 4);
+            loft.wind(9, 20, 0);
+            for (int layer = 0; layer <= 8; layer++) {
+                loft.wind(layer, layer == 4 ? 1 : 0, layer > 4 ? 20 : wy);
+            }
+            Checks.same("would meet with " + wy, loft.wouldMeet(1, -20), wy == 13 ? 1 : 0);
+            loft.fly(-20, 1);
+            Checks.same("met with " + wy, loft.many(10), wy == 13 ? 1 : 0);
+            Checks.same("y with " + wy, loft.landed(0, true), 80.0 + 15 * (wy - 4));
         }
     }
 

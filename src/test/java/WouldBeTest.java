@@ -7,6 +7,8 @@ final class WouldBeTest {
         takesIsRefused();
         theBestSpot();
         theBestSpotOfSeveral();
+        theSmallestSpotOfTwoAsNear();
+        theFarthestSpots();
         howManyWouldMeet();
         wouldMeetIsRefused();
         theBestRig();
@@ -115,6 +117,41 @@ final class WouldBeTest {
         Checks.same("no spot with points of both: the nearest one of the first", loft.spot(9), 0);
         loft.hold(true);
         Checks.same("while held", loft.spot(1), 0);
+    }
+
+    /**
+     * Steep to 3. From 40: (16, 0) below the LAYER 3, (37, -15) below 2, (-15, 0) below 1, (0, 0) on the ground. From
+     * -20, 0 and 20: (0, 0), (21, -15), (-23, 8), (-7, 0). From -40: (-16, 0), (13, -10), (-24, 5), (0, 5).
+     */
+    private static void theSmallestSpotOfTwoAsNear() {
+        ChuteLoft loft = PlaneTest.ready(1, 3);
+        loft.wind(2, 15, -5);
+        loft.wind(1, -20, 5);
+        loft.board(0, 1, 3);
+        double[] xDue = {0.0, -7.0, -7.0, -7.0, 0.0};
+        double[] yDue = {5.0, 0.0, 0.0, 0.0, 0.0};
+        for (int i = 0; i < 5; i++) {
+            int spot = 20 * i - 40;
+            Checks.same("x from " + spot, loft.wouldLand(0, 1, 3, spot, false), xDue[i]);
+            Checks.same("y from " + spot, loft.wouldLand(0, 1, 3, spot, true), yDue[i]);
+        }
+        Checks.same("the smaller one of -40 and 40", loft.spot(1), -40);
+    }
+
+    /**
+     * Flat to 2 with winds of 20 down to the LAYER 2: 140 as one falls. Reckoned back from 5.0 on the ground, one must
+     * open at -57 or less.
+     */
+    private static void theFarthestSpots() {
+        for (int side = -1; side <= 1; side += 2) {
+            ChuteLoft loft = PlaneTest.ready(1, 3);
+            for (int layer = 2; layer <= 9; layer++) {
+                loft.wind(layer, side * 20, 0);
+            }
+            loft.wind(1, side * 14, 0);
+            loft.board(0, 0, 2);
+            Checks.same("points only from there", loft.spot(1), side * -200);
+        }
     }
 
     private static void howManyWouldMeet() {

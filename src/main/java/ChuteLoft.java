@@ -473,8 +473,10 @@ public final class ChuteLoft {
     private boolean goesAhead(int one, int other) {
         Jumper a = jumperAt(one);
         Jumper b = jumperAt(other);
-        if (a.licence > 0 != b.licence > 0) {
-            return a.licence > 0;
+        boolean isStudentA = a.licence == 0;
+        boolean isStudentB = b.licence == 0;
+        if (isStudentA != isStudentB) {
+            return isStudentB;
         }
         if (a.style != b.style) {
             return a.style == FLAT;

@@ -59,7 +59,9 @@ final class Edges {
         Checks.same("what stands behind " + what, future(loft), future(maker.get()));
     }
 
-    /** All that can be asked, then what some calls answer that bring to light what is hidden: STYLES, LAYERS to OPEN. */
+    /**
+     * All that can be asked, then what some calls answer that bring to light what is hidden: STYLES, LAYERS to OPEN.
+     */
     static String future(ChuteLoft loft) {
         StringBuilder told = new StringBuilder(Checks.stateOf(loft));
         told.append(' ').append(loft.hold(false));
@@ -90,7 +92,10 @@ final class Edges {
         Checks.same("what stands behind " + what, future(loft), future(maker.get()));
     }
 
-    /** A loft with so many jumpers and rigs, none lent: WEIGHTS 60, 61 .., LICENCE 3, AREAS 200, 201 .., DUE in 30 DAYS. */
+    /**
+     * A loft with so many jumpers and rigs, none lent: WEIGHTS 60, 61 .., LICENCE 3, AREAS 200, 201 .., DUE in 30
+     * DAYS.
+     */
     static ChuteLoft told(int jumpers, int rigs) {
         ChuteLoft loft = new ChuteLoft();
         for (int i = 0; i < jumpers; i++) {

@@ -29,6 +29,7 @@ final class EdgesOfJumpTest {
 
         nearerButToZeroAtMost();
         yNearerButToZeroAtMost();
+        lessThanOneFromZero();
         atLeastAsFar();
         steeredBehindTheWind();
         forwardIsADouble();
@@ -225,7 +226,8 @@ final class EdgesOfJumpTest {
 
     /** "if DRAW is below the sum of (9 less NEAT) and ..": the fourth, the fifth and the sixth DRAW are 7, 6 and 1. */
     private static void drawsJustBelowAndJustAt() {
-        int[][] rows = {{3, 6, 0}, {3, 7, 0}, {4, 5, 0}, {4, 6, 0}, {4, 7, 1}, {5, 0, 0}, {5, 1, 0}, {5, 2, 1}, {5, 7, 1}};
+        int[][] rows = {{3, 6, 0}, {3, 7, 0}, {4, 5, 0}, {4, 6, 0}, {4, 7, 1}, {5, 0, 0}, {5, 1, 0}, {5, 2, 1},
+            {5, 7, 1}};
         for (int[] row : rows) {
             ChuteLoft loft = Edges.aboard(row[0], row[0], 3);
             loft.fly(0, 9);
@@ -250,36 +252,34 @@ final class EdgesOfJumpTest {
     }
 
     /**
-     * "and (WEAR times 2f, cut to a whole number)", reckoned in sixteenths: two RIGS, the one PACKED by fresh hands, the
-     * other one by hands that tire, each as long as 500 calls last.
+     * "and (WEAR times 2f, cut to a whole number)", reckoned in sixteenths: of a RIG that fresh hands PACK, on a new
+     * DAY each time, and of one that the same hands PACK on one DAY; each for nearly 512 calls.
      */
     private static void wearTimesTwoIsCut() {
-        for (int fresh = 0; fresh <= 1; fresh++) {
-            ChuteLoft loft = Edges.told(1, 1);
-            loft.lend(0, 0);
-            int sixteenths = 0;
-            int troubles = 0;
-            int calls = 3;
-            for (int flight = 0; calls < 490; flight++) {
-                int neat = loft.pack(0, 0);
-                loft.board(0, 0, 4);
-                loft.fly(0, 1);
-                boolean isTrouble = DRAWS[flight % 32] < 9 - neat + sixteenths / 8;
-                sixteenths += isTrouble ? 4 : 1;
-                troubles += isTrouble ? 1 : 0;
-                Checks.same("troubles behind flight " + flight, loft.many(8), troubles);
-                Checks.same("wear behind flight " + flight, loft.wear(0), sixteenths / 16.0);
-                calls += 5;
-                if (fresh == 1) {
-                    loft.pass(1);
-                    calls++;
-                }
-                if (isTrouble || loft.ofRig(0, 1) < loft.many(0)) {
-                    loft.renew(0);
-                    calls += 3;
-                }
+        wears(83, true);
+        wears(100, false);
+    }
+
+    private static void wears(int flights, boolean isFresh) {
+        ChuteLoft loft = Edges.told(1, 1);
+        loft.lend(0, 0);
+        int sixteenths = 0;
+        int troubles = 0;
+        for (int flight = 0; flight < flights; flight++) {
+            int neat = isFresh ? 9 : Math.max(0, 9 - flight);
+            if (isFresh) {
+                loft.pass(1);
             }
+            loft.pack(0, 0);
+            loft.renew(0);
+            loft.board(0, 0, 4);
+            loft.fly(0, 1);
+            boolean isTrouble = DRAWS[flight % 32] < 9 - neat + sixteenths / 8;
+            sixteenths += isTrouble ? 4 : 1;
+            troubles += isTrouble ? 1 : 0;
+            Checks.same("troubles till flight " + flight + ", fresh: " + isFresh, loft.many(8), troubles);
         }
+        Checks.same("wear, fresh: " + isFresh, loft.wear(0), sixteenths / 16.0);
     }
 
     /** A sum of 32 and more: the DRAW of 31, of the 92nd FLIGHT, is TROUBLE too. */
@@ -314,8 +314,8 @@ final class EdgesOfJumpTest {
     }
 
     /**
-     * "Then one falls on through that LAYER, and the reserve opens in the one below it likewise (without a DRAW)": as in
-     * ticksInEachLayer, from the highest LAYER to OPEN to the lowest one.
+     * "Then one falls on through that LAYER, and the reserve opens in the one below it likewise (without a DRAW)": as
+     * in ticksInEachLayer, from the highest LAYER to OPEN to the lowest one.
      */
     private static void onThroughTheLayerToOpen() {
         for (int open = 2; open <= 6; open++) {
@@ -344,7 +344,9 @@ final class EdgesOfJumpTest {
         }
     }
 
-    /** "the DUE DAY of it becomes the DAY ahead of this one": -1 on DAY 0, 499 on DAY 500; then it is not to be flown. */
+    /**
+     * "the DUE DAY of it becomes the DAY ahead of this one": -1 on DAY 0, 499 on DAY 500; then it is not to be flown.
+     */
     private static void dueTheDayAhead() {
         for (int day : new int[] {0, 1, 500}) {
             ChuteLoft loft = behindDraws(5, day == 500 ? 440 : 0);
@@ -408,6 +410,20 @@ final class EdgesOfJumpTest {
     }
 
     /**
+     * "at least as far", "nearer to 0.0": of 0.5 too, whichever of both it is, on either side; steep, so that half
+     * counts.
+     */
+    private static void lessThanOneFromZero() {
+        int[][] rows = {{1, 0}, {-1, 0}, {0, 1}, {0, -1}, {1, 1}, {-1, 1}, {1, -1}, {-1, -1}};
+        for (int[] row : rows) {
+            ChuteLoft loft = PlaneTest.ready(1, 3);
+            loft.wind(9, row[0], row[1]);
+            Checks.same("x of " + row[0] + ", " + row[1], loft.wouldLand(0, 1, 4, 0, false), 0.0);
+            Checks.same("y of " + row[0] + ", " + row[1], loft.wouldLand(0, 1, 4, 0, true), 0.0);
+        }
+    }
+
+    /**
      * "with x at least as far from 0.0 as y is, x comes nearer .. otherwise y": a TICK a LAYER, 20.25 nearer in it, so
      * that one comes to 0.0 from all winds of the LAYER 0.
      */
@@ -426,8 +442,8 @@ final class EdgesOfJumpTest {
     }
 
     /**
-     * "first x is WX more, y is WY more; then one STEERS": in the LAYER 0, from 0.0, a WX of 9 leaves 1, then 2, then 3;
-     * STEERED first it would be 9 behind the last TICK.
+     * "first x is WX more, y is WY more; then one STEERS": in the LAYER 0, from 0.0, a WX of 9 leaves 1, then 2, then
+     * 3; STEERED first it would be 9 behind the last TICK.
      */
     private static void steeredBehindTheWind() {
         ChuteLoft loft = PlaneTest.ready(1, 3);
@@ -467,9 +483,9 @@ final class EdgesOfJumpTest {
     // ---- FAR, POINTS and OFF
 
     /**
-     * "POINTS: 3 with a FAR of 5.0 or less, 1 with one of 20.0 or less, otherwise 0; with one above 100.0 one is OFF";
-     * "without their signs". Steep to 4 with a LICENCE of 0: half of the winds of the LAYERS 9 to 5, then 4 nearer and a
-     * wind of 4 in fifteen TICKS; with a wind of 12 in four LAYERS 96 farther.
+     * "POINTS: 3 with a FAR of 5.0 or less, 1 with one of 20.0 or less, otherwise 0; with one above 100.0 one is
+     * OFF"; "without their signs". Steep to 4 with a LICENCE of 0: half of the winds of the LAYERS 9 to 5, then 4
+     * nearer and a wind of 4 in fifteen TICKS; with a wind of 12 in four LAYERS 96 farther.
      */
     private static void pointsByFarOnEitherSide() {
         int[] twiceFar = {0, 1, 9, 10, 11, 39, 40, 41, 191, 192, 199, 200, 201, 202};
@@ -646,8 +662,8 @@ final class EdgesOfJumpTest {
 
     /** "nor y": 10.0 in y is, 9.5 is not, in either direction; and in both at once. */
     private static void tenApartInYOrBoth() {
-        int[][] rows = {{100, 19, 1}, {100, 20, 0}, {100, 21, 0}, {100, -19, 1}, {100, -20, 0}, {100, -21, 0}, {81, 19, 1},
-            {81, -19, 1}, {81, 20, 0}, {80, 19, 0}, {80, 20, 0}};
+        int[][] rows = {{100, 19, 1}, {100, 20, 0}, {100, 21, 0}, {100, -19, 1}, {100, -20, 0}, {100, -21, 0},
+            {81, 19, 1}, {81, -19, 1}, {81, 20, 0}, {80, 19, 0}, {80, 20, 0}};
         for (int[] row : rows) {
             String what = "sums " + row[0] + ", " + row[1];
             ChuteLoft loft = sideBySide(row[0], row[1]);
@@ -677,8 +693,8 @@ final class EdgesOfJumpTest {
     }
 
     /**
-     * "both are under a canopy or a reserve": behind the TICK 5 both are in the LAYER 6, 60 from the SPOT; the second one
-     * falls on from there to the LAYER 2, and meets nobody.
+     * "both are under a canopy or a reserve": behind the TICK 5 both are in the LAYER 6, 60 from the SPOT; the second
+     * one falls on from there to the LAYER 2, and meets nobody.
      */
     private static void fallingOnesMeetNobody() {
         for (int open = 2; open <= 6; open += 4) {
@@ -727,8 +743,9 @@ final class EdgesOfJumpTest {
     }
 
     /**
-     * "a reserve (also one that just opened)": the first one, a TICK a LAYER, is in the LAYER 4 behind the TICK 7 alone,
-     * at 0.0; the second one has TROUBLE in the LAYER 5, and comes to 0.0 in the LAYER 4 behind that TICK (GAP 3).
+     * "a reserve (also one that just opened)": the first one, a TICK a LAYER, is in the LAYER 4 behind the TICK 7
+     * alone, at 0.0; the second one has TROUBLE in the LAYER 5, and comes to 0.0 in the LAYER 4 behind that TICK (GAP
+     * 3).
      */
     private static void justOpenedReserveMeets() {
         for (int gap = 3; gap <= 4; gap++) {

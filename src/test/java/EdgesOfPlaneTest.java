@@ -1,13 +1,15 @@
 import java.util.function.Supplier;
 
 /**
- * The edges of why one may not BOARD, of the ORDER, and of the promises 9 to 13, sentence by sentence; each quoted above
- * its test. What a JUMP does is in EdgesOfJumpTest.
+ * The edges of why one may not BOARD, of the ORDER, and of the promises 9 to 13, sentence by sentence; each quoted
+ * above its test. What a JUMP does is in EdgesOfJumpTest.
  */
 final class EdgesOfPlaneTest {
     private static final int[] GROUND_LIMITS = {8, 14, 20, 30};
 
-    /** The reckoning of each licence: WEIGHT and AREA of just 4, 6 and 9, and of the next LOADING that there is above. */
+    /**
+     * The reckoning of each licence: WEIGHT and AREA of just 4, 6 and 9, and of the next LOADING that there is above.
+     */
     private static final int[][] AT_THE_LIMIT = {{80, 200}, {60, 100}, {90, 100}};
     private static final int[][] NEXT_ABOVE = {{119, 297}, {128, 213}, {127, 141}};
     private static final int[][] NEXT_BELOW = {{119, 298}, {130, 217}, {125, 139}};
@@ -91,7 +93,9 @@ final class EdgesOfPlaneTest {
         whyNot(loft, 0, "not packed behind a flight", 2);
     }
 
-    /** "3 its reserve was DUE ahead of this DAY": not on the DAY itself, on the first one, a later one, the last one. */
+    /**
+     * "3 its reserve was DUE ahead of this DAY": not on the DAY itself, on the first one, a later one, the last one.
+     */
     private static void dueAheadOfThisDay() {
         for (int day : new int[] {0, 1, 440, 499}) {
             ChuteLoft loft = Edges.onDay(new ChuteLoft(), day);
@@ -152,7 +156,9 @@ final class EdgesOfPlaneTest {
         whyNot(Edges.one(50, 3, 300), 0, "the smallest loading of all", 0);
     }
 
-    /** "or above 4f, if more than 30 DAYS went by since the DAY of the last JUMP": by every LICENCE, from being told. */
+    /**
+     * "or above 4f, if more than 30 DAYS went by since the DAY of the last JUMP": by every LICENCE, from being told.
+     */
     private static void moreThanThirtyDays() {
         for (int licence = 1; licence <= 3; licence++) {
             for (int told : new int[] {0, 1, 7}) {

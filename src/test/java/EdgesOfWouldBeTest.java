@@ -23,6 +23,7 @@ final class EdgesOfWouldBeTest {
         gapsOfSpots();
         nobodyAboard();
         noneElseThanTwenties();
+        theNearestOfTwoAlike();
         theNearestOfSeveral();
         theFirstAndTheLastSpot();
         pointsOfAllTogether();
@@ -41,6 +42,9 @@ final class EdgesOfWouldBeTest {
         digestsOfFullLofts();
         digestsWrapAround();
         productsAreCut();
+        productsOfWear();
+        spotOfThree();
+        pairsOfThreeAndZero();
 
         nothingIsChanged();
         withoutTrouble();
@@ -203,11 +207,14 @@ final class EdgesOfWouldBeTest {
         Checks.same("the most", slow.takes(0, 0, 6), 41);
     }
 
-    /** "After 1 and (8f / LOADING, cut to a whole number) TICKS in a LAYER": just at whole numbers, and next to them. */
+    /**
+     * "After 1 and (8f / LOADING, cut to a whole number) TICKS in a LAYER": just at whole numbers, and next to them.
+     */
     private static void ticksOfALayer() {
         // LOADINGS of 8 and 8.01, 4 and 4.007, 2.667 and 2.669, 2 and 2.007; and those next below.
-        int[][] rows = {{64, 80, 2}, {129, 161, 1}, {80, 200, 3}, {119, 297, 2}, {60, 225, 4}, {79, 296, 3}, {50, 250, 5},
-            {60, 299, 4}, {119, 298, 3}, {50, 251, 5}, {50, 300, 5}, {130, 80, 1}, {52, 195, 4}, {72, 90, 2}};
+        int[][] rows = {{64, 80, 2}, {129, 161, 1}, {80, 200, 3}, {119, 297, 2}, {60, 225, 4}, {79, 296, 3},
+            {50, 250, 5}, {60, 299, 4}, {119, 298, 3}, {50, 251, 5}, {50, 300, 5}, {130, 80, 1},
+            {52, 195, 4}, {72, 90, 2}};
         for (int[] row : rows) {
             ChuteLoft loft = Edges.one(row[0], 3, row[1]);
             Checks.same(row[0] + " on " + row[1], loft.takes(0, 1, 2), 7 + 3 * row[2]);
@@ -237,8 +244,8 @@ final class EdgesOfWouldBeTest {
     }
 
     /**
-     * Flat to 2, 140 farther as one falls. From -200: (-60) 8 below the LAYER 2, 26 below 1, 2 on the ground; from -180:
-     * (-40) 12, 30, 6. So only the farthest SPOT has 3 POINTS.
+     * Flat to 2, 140 farther as one falls. From -200: (-60) 8 below the LAYER 2, 26 below 1, 2 on the ground; from
+     * -180: (-40) 12, 30, 6. So only the farthest SPOT has 3 POINTS.
      */
     private static ChuteLoft blownTo(int wx) {
         ChuteLoft loft = PlaneTest.ready(1, 3);
@@ -263,6 +270,31 @@ final class EdgesOfWouldBeTest {
             ChuteLoft other = Edges.aboard(2, 2, 3);
             other.wind(9, -10, 0);
             Checks.same("points from " + row[0], other.fly(row[0], 6), row[1]);
+        }
+    }
+
+    /**
+     * Two leave 144 apart (GAP 3), are blown 138 to the left as they fall flat to 2, and come 72 nearer: both get 3
+     * POINTS from 61 to 71 alone. From 60 it is 1 and 3, from 80 3 and 1.
+     */
+    private static ChuteLoft twoBetweenSpots() {
+        ChuteLoft loft = PlaneTest.ready(2, 3);
+        loft.wind(9, -18, 0);
+        for (int layer = 3; layer <= 8; layer++) {
+            loft.wind(layer, -20, 0);
+        }
+        loft.board(0, 0, 2);
+        loft.board(1, 0, 2);
+        return loft;
+    }
+
+    private static void theNearestOfTwoAlike() {
+        Checks.same("the nearer one of 60 and 80", twoBetweenSpots().spot(3), 60);
+        int[][] rows = {{60, 4, 1}, {61, 6, 3}, {71, 6, 3}, {72, 4, 3}, {80, 4, 3}};
+        for (int[] row : rows) {
+            ChuteLoft loft = twoBetweenSpots();
+            Checks.same("points from " + row[0], loft.fly(row[0], 3), row[1]);
+            Checks.same("points of the first one from " + row[0], loft.ofJumper(0, 5), row[2]);
         }
     }
 
@@ -374,7 +406,9 @@ final class EdgesOfWouldBeTest {
         Checks.same("another one's", loft.best(1), -1);
     }
 
-    /** "the greatest that (5) of section 2 lets": 4, 6 and 9 are let, the LOADING next above is not; 16.25 is, with 3. */
+    /**
+     * "the greatest that (5) of section 2 lets": 4, 6 and 9 are let, the LOADING next above is not; 16.25 is, with 3.
+     */
     private static void theGreatestThatIsLet() {
         int[][] at = {{80, 200, 199}, {60, 100, 99}, {90, 100, 99}};
         for (int licence = 0; licence <= 2; licence++) {
@@ -460,7 +494,10 @@ final class EdgesOfWouldBeTest {
         Checks.same("who has that", loft.best(1), 1);
     }
 
-    /** Neither that it is not PACKED, nor overdue, nor that the wind is too strong, nor that the plane is HELD matters. */
+    /**
+     * Neither that it is not PACKED, nor overdue, nor that the wind is too strong, nor that the plane is HELD
+     * matters.
+     */
     private static void whateverTheRigIsLike() {
         ChuteLoft loft = new ChuteLoft();
         loft.jumper(60, 0);
@@ -574,6 +611,65 @@ final class EdgesOfWouldBeTest {
             other.fly(side * -200, 1);
             digestIsDue("both signs, " + side, other, 13 + 13 + 6 + 20 + 2);
         }
+    }
+
+    /** "64 times wear() (cut likewise)": a WEAR of 2.125, of 31 FLIGHTS, the last one with TROUBLE. */
+    private static void productsOfWear() {
+        ChuteLoft loft = PlaneTest.ready(1, 3);
+        for (int flight = 0; flight < 31; flight++) {
+            loft.board(0, 0, 4);
+            loft.fly(0, 1);
+            loft.pass(1);
+            loft.renew(0);
+            loft.pack(0, 0);
+        }
+        Checks.same("wear", loft.wear(0), 2.125);
+        Checks.same("the product", (long) valuesOf(loft).get(13 + 13 + 5), 136L);
+        digestIsDue("worn", loft, 13 + 13 + 6 + 20 + 2);
+    }
+
+    /** "spot() of 3": where those of 2 and 4 are others. */
+    private static void spotOfThree() {
+        int[] due = {80, 60, 0};
+        for (int gap = 2; gap <= 4; gap++) {
+            Checks.same("spot of " + gap, twoBetweenSpots().spot(gap), due[gap - 2]);
+        }
+        digestIsDue("a spot of 60", twoBetweenSpots(), 13 + 2 * 13 + 2 * 6 + 20 + 2);
+    }
+
+    /** "wouldMeet() of 3 and 0": where those of the GAPS 2 and 4, and of the SPOTS 1 or -1, are others. */
+    private static void pairsOfThreeAndZero() {
+        for (int side = -1; side <= 1; side += 2) {
+            boolean isLeft = side > 0;
+            Supplier<ChuteLoft> maker = () -> isLeft ? threeFromTheLeft() : threeFromTheRight();
+            int would = maker.get().wouldMeet(3, 0);
+            Checks.same("any", would > 0, true);
+            Checks.same("as with a gap of 2", maker.get().wouldMeet(2, 0) == would, false);
+            Checks.same("as with a gap of 4", maker.get().wouldMeet(4, 0) == would, false);
+            Checks.same("as from " + side, maker.get().wouldMeet(3, side) == would, false);
+            digestIsDue("three aboard", maker.get(), 13 + 3 * 13 + 3 * 6 + 20 + 2);
+        }
+    }
+
+    private static ChuteLoft threeFromTheLeft() {
+        ChuteLoft loft = PlaneTest.ready(3, 3);
+        loft.wind(5, -10, 0);
+        loft.wind(7, -10, 0);
+        loft.board(0, 0, 6);
+        loft.board(1, 1, 5);
+        loft.board(2, 0, 4);
+        return loft;
+    }
+
+    private static ChuteLoft threeFromTheRight() {
+        ChuteLoft loft = PlaneTest.ready(3, 3);
+        loft.wind(9, 10, 0);
+        loft.wind(7, -20, 0);
+        loft.wind(6, 15, 0);
+        loft.board(0, 1, 6);
+        loft.board(1, 1, 4);
+        loft.board(2, 0, 4);
+        return loft;
     }
 
     // ---- "what would be (nothing is changed; without TROUBLE)"

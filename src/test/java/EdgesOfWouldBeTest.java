@@ -24,6 +24,7 @@ final class EdgesOfWouldBeTest {
         nobodyAboard();
         noneElseThanTwenties();
         theNearestOfTwoAlike();
+        theMostOfSix();
         theNearestOfSeveral();
         theFirstAndTheLastSpot();
         pointsOfAllTogether();
@@ -296,6 +297,32 @@ final class EdgesOfWouldBeTest {
             Checks.same("points from " + row[0], loft.fly(row[0], 3), row[1]);
             Checks.same("points of the first one from " + row[0], loft.ofJumper(0, 5), row[2]);
         }
+    }
+
+    /**
+     * Six leave 48 apart (GAP 1), and are blown and steered likewise: from 20 the second to the fifth one have 3 POINTS,
+     * from 80 the first three of them, and the fourth one has 1.
+     */
+    private static void theMostOfSix() {
+        int[][] rows = {{20, 12, 0}, {80, 10, 3}, {60, 10, 1}};
+        Checks.same("spot of six", sixBetweenSpots().spot(1), 20);
+        for (int[] row : rows) {
+            ChuteLoft loft = sixBetweenSpots();
+            Checks.same("points of six from " + row[0], loft.fly(row[0], 1), row[1]);
+            Checks.same("points of the first one from " + row[0], loft.ofJumper(0, 5), row[2]);
+        }
+    }
+
+    private static ChuteLoft sixBetweenSpots() {
+        ChuteLoft loft = PlaneTest.ready(6, 3);
+        loft.wind(9, -18, 0);
+        for (int layer = 3; layer <= 8; layer++) {
+            loft.wind(layer, -20, 0);
+        }
+        for (int i = 0; i < 6; i++) {
+            loft.board(i, 0, 2);
+        }
+        return loft;
     }
 
     /** "of several that nearest to 0, of several the smallest one": see WouldBeTest for -40 and 40. */

@@ -23,7 +23,8 @@ final class FaceTest {
 
     private static final String[] NOT_IN_THE_TEXT = {
         "->", "::", "\\bcatch\\b", "\\btry\\b", "\\bfinally\\b", "\\bsynchronized\\b", "\\bassert\\b", "\\bimport\\b",
-        "\\bpackage\\b", "\\binstanceof\\b", "\\bhashCode\\b", "\\btoString\\b", "Exact\\(", "[^\\x00-\\x7f]"};
+        "\\bpackage\\b", "\\binstanceof\\b", "\\bhashCode\\b", "\\btoString\\b", "Exact\\(", "[^\\x00-\\x7f]",
+        "\"\\s*\\+", "\\+\\s*\""};
 
     public static void main(String[] args) throws IOException {
         theFace();
@@ -73,10 +74,24 @@ final class FaceTest {
     private static void theClassesInside() {
         Class<?>[] inside = ChuteLoft.class.getDeclaredClasses();
         Checks.same("at most eleven classes inside", inside.length <= 11, true);
+        theSizeOf(ChuteLoft.class);
         for (Class<?> type : inside) {
             Checks.same(type + " is static", Modifier.isStatic(type.getModifiers()), true);
             Checks.same(type + " is not public", Modifier.isPublic(type.getModifiers()), false);
+            theSizeOf(type);
         }
+    }
+
+    /** Rule 11: seven parameters at most, and some twenty fields beside the constants. */
+    private static void theSizeOf(Class<?> type) {
+        for (Method method : type.getDeclaredMethods()) {
+            Checks.same(method + " takes at most seven", method.getParameterCount() <= 7, true);
+        }
+        int fields = 0;
+        for (Field field : type.getDeclaredFields()) {
+            fields += Modifier.isStatic(field.getModifiers()) ? 0 : 1;
+        }
+        Checks.same(type + " has at most twenty fields", fields <= 20, true);
     }
 
     private static void theText() throws IOException {
